@@ -25,7 +25,7 @@ public final class SharedLambda {
     private static final int ROOT = 6;
     private static final int KINDS = 7;
 
-    // What run(fuel) answers; the two below are for the walk alone.
+    // What run(fuel) answers; from MEETING on they are for the walk alone.
     private static final int DONE = 0;
     private static final int NO_FUEL = 1;
     private static final int NO_ROOM = 2;
@@ -33,6 +33,7 @@ public final class SharedLambda {
     private static final int WRONG = 4;
     private static final int MEETING = 5;
     private static final int GOES_ON = 6;
+    private static final int TERM_READ = 7;
 
     private final int[] tape = new int[TAPE_BYTES];
     private int tapeLength;
@@ -138,6 +139,10 @@ public final class SharedLambda {
         resultLetters = 0;
     }
 
+    /**
+     * A walk done anew would come back to the step before the meeting in the same way, so it goes on from there:
+     * no meeting and no erasing touches a node that was walked through before, nor a wire between two of them.
+     */
     private int reduce(int fuel) {
         walk.begin();
         for (int fuelLeft = fuel; fuelLeft >= 0; fuelLeft--) {
@@ -148,23 +153,17 @@ public final class SharedLambda {
             if (fuelLeft == 0) {
                 return NO_FUEL;
             }
-            int refusal = meetings.refusal(walk.met(), walk.meeting());
+            int left = walk.nodeLeft();
+            int next = walk.nodeAhead();
+            int refusal = meetings.refusal(left, next);
             if (refusal != MEETING) {
                 return refusal;
             }
-            meet(walk.met(), walk.meeting());
+            walk.stepBack();
+            meetings.act(left, next);
+            graph.eraseAll();
         }
         return NO_FUEL;
-    }
-
-    /**
-     * What the walk read before it came into the first of the two stays as it was, so that it need not be done
-     * again: no meeting and no erasing touches a node that was walked through before, nor a wire between two such.
-     */
-    private void meet(int first, int second) {
-        walk.stepBack();
-        meetings.act(first, second);
-        graph.eraseAll();
     }
 
     private static boolean isControl(int kind) {
@@ -519,11 +518,11 @@ public final class SharedLambda {
         }
 
         int kindOf(int node) {
-            return has(node) ? kinds[node] : NONE;
+            return node >= 0 && node < CAPACITY ? kinds[node] : NONE;
         }
 
         int indexOf(int node) {
-            return has(node) ? indexes[node] : NONE;
+            return node >= 0 && node < CAPACITY ? indexes[node] : NONE;
         }
 
         /** The port at the other end of a port's wire. */
@@ -536,7 +535,7 @@ public final class SharedLambda {
                 return NONE;
             }
             int node = spare[spares - 1];
-            if (!has(node)) {
+            if (node < 0 || node >= CAPACITY) {
                 return NONE;
             }
             spares--;
@@ -563,8 +562,8 @@ public final class SharedLambda {
             }
             wires[one] = other;
             wires[other] = one;
-            awaken(nodeAt(one));
-            awaken(nodeAt(other));
+            rouse(nodeAt(one));
+            rouse(nodeAt(other));
         }
 
         /** What was at the old port is at the new one then; that may be a port which is itself to be replaced later. */
@@ -580,30 +579,30 @@ public final class SharedLambda {
         }
 
         void eraseAll() {
-            for (int turn = 0; turn < MANY_TURNS && restlessCount > 0; turn++) {
+            for (int turn = 0; turn < MANY_TURNS && restlessCount > 0 && restlessCount <= CAPACITY; turn++) {
                 restlessCount--;
-                int eraser = restless[restlessCount];
-                if (has(eraser)) {
-                    isRestless[eraser] = false;
-                    tryEraser(eraser);
-                }
+                calm(restless[restlessCount]);
             }
         }
 
-        private boolean has(int node) {
-            return node >= 0 && node < CAPACITY;
-        }
-
-        private void awaken(int node) {
-            if (kindOf(node) == ERASER && !isRestless[node] && restlessCount < CAPACITY) {
+        /** A node that is no eraser, or waits already, is left alone. */
+        private void rouse(int node) {
+            if (node < 0 || node >= CAPACITY || restlessCount >= CAPACITY) {
+                return;
+            }
+            if (kinds[node] == ERASER && !isRestless[node]) {
                 isRestless[node] = true;
                 restless[restlessCount] = node;
                 restlessCount++;
             }
         }
 
-        private void tryEraser(int eraser) {
-            if (kindOf(eraser) != ERASER) {
+        private void calm(int eraser) {
+            if (eraser < 0 || eraser >= CAPACITY) {
+                return;
+            }
+            isRestless[eraser] = false;
+            if (kinds[eraser] != ERASER) {
                 return;
             }
             int port = across(portOf(eraser, 0));
@@ -798,9 +797,11 @@ public final class SharedLambda {
 
         void act(int one, int other) {
             if (isBeta(one, other)) {
-                beta(one, other);
+                joinPorts(one, other);
+                betas++;
             } else if (isAnnihilation(one, other)) {
-                annihilate(one, other);
+                joinPorts(one, other);
+                annihilations++;
             } else if (passes(one, other)) {
                 pass(one, other);
             } else if (passes(other, one)) {
@@ -846,18 +847,9 @@ public final class SharedLambda {
             }
         }
 
-        /** An application's result and a lambda's body are both port 1, argument and binding port 2. */
-        private void beta(int one, int other) {
-            joinPorts(one, other, 2);
-            betas++;
-        }
-
-        private void annihilate(int one, int other) {
-            joinPorts(one, other, otherPorts(graph.kindOf(one)));
-            annihilations++;
-        }
-
-        private void joinPorts(int one, int other, int ports) {
+        /** For a beta too: result and body are both port 1, argument and binding both port 2. */
+        private void joinPorts(int one, int other) {
+            int ports = otherPorts(graph.kindOf(one));
             for (int which = 1; which <= ports; which++) {
                 graph.join(portOf(one, which), portOf(other, which));
             }
@@ -907,7 +899,7 @@ public final class SharedLambda {
         private final int[] newest = new int[BUCKETS];
         private int count = 1;
 
-        int count() {
+        int size() {
             return count;
         }
 
@@ -1045,7 +1037,7 @@ public final class SharedLambda {
         }
 
         void undoTo(int mark) {
-            while (changes > mark && changes > 0) {
+            for (int over = changes - mark; over > 0; over--) {
                 undo();
             }
         }
@@ -1066,9 +1058,8 @@ public final class SharedLambda {
                     insert(n, old);
                     break;
                 case PAIRED:
-                    int second = trees.right(level(n));
+                    insert(n + 1, trees.right(level(n)));
                     set(n, old);
-                    insert(n + 1, second);
                     break;
                 case SPLIT:
                     set(n, old);
@@ -1086,7 +1077,7 @@ public final class SharedLambda {
                 trailForms[changes] = form;
                 trailLevels[changes] = n;
                 trailTrees[changes] = level(n);
-                trailCounts[changes] = trees.count();
+                trailCounts[changes] = trees.size();
                 changes++;
             }
         }
@@ -1171,13 +1162,11 @@ public final class SharedLambda {
             return i >= 0 && i < told && i < MAX_LETTERS ? letters[i] : NONE;
         }
 
-        /** Behind MEETING: the node that was left. */
-        int met() {
+        int nodeLeft() {
             return nodeAt(leaving);
         }
 
-        /** Behind MEETING: the node that it would come to. */
-        int meeting() {
+        int nodeAhead() {
             return nodeAt(graph.across(leaving));
         }
 
@@ -1190,6 +1179,9 @@ public final class SharedLambda {
                 leftBefore[steps] = leaving;
                 steps++;
                 int outcome = arrive(nodeAt(there), whichAt(there));
+                if (outcome == TERM_READ) {
+                    outcome = endTerm();
+                }
                 if (outcome != GOES_ON) {
                     return outcome;
                 }
@@ -1202,7 +1194,7 @@ public final class SharedLambda {
             if (steps < 1 || steps > MAX_STEPS) {
                 return;
             }
-            if (graph.kindOf(met()) != APPLICATION) {
+            if (graph.kindOf(nodeAt(leaving)) != APPLICATION) {
                 context.undo();
             } else if (depth > 0 && told > 0) {
                 depth--;
@@ -1296,18 +1288,20 @@ public final class SharedLambda {
             int n = graph.indexOf(node);
             for (int binder = binderCount - 1; binder >= 0; binder--) {
                 if (binders[binder] == node && hasLevels(binderStarts[binder], n)) {
-                    return tellNumber(binderCount - 1 - binder) ? endTerm() : TOO_LONG;
+                    return tellNumber(binderCount - 1 - binder) ? TERM_READ : TOO_LONG;
                 }
             }
             return WRONG;
         }
 
-        /** Behind a variable: ends all that ends with it, and goes on with the next argument, if there is one. */
+        /** Behind a variable: ends all that ends with it, and turns to the next argument, if there is one. */
         private int endTerm() {
-            while (depth > 0 && depth <= MAX_LETTERS) {
-                int top = depth - 1;
+            for (int top = depth - 1; top >= 0 && top < MAX_LETTERS; top--) {
                 if (stages[top] == IN_FUNCTION) {
-                    return tell(' ') ? turnToArgument(top) : TOO_LONG;
+                    context.undoTo(stageMarks[top]);
+                    stages[top] = IN_ARGUMENT;
+                    leaving = portOf(stageNodes[top], 2);
+                    return tell(' ') ? GOES_ON : TOO_LONG;
                 }
                 if (stages[top] == IN_ARGUMENT && !tell(')')) {
                     return TOO_LONG;
@@ -1318,15 +1312,6 @@ public final class SharedLambda {
                 depth = top;
             }
             return DONE;
-        }
-
-        private int turnToArgument(int top) {
-            if (top < 0 || top >= MAX_LETTERS) {
-                return WRONG;
-            }
-            context.undoTo(stageMarks[top]);
-            stages[top] = IN_ARGUMENT;
-            return leaveBy(stageNodes[top], 2);
         }
 
         private void push(int stage, int node) {

@@ -301,7 +301,7 @@ public final class SharedLambda {
             at++;
             skipBlanks();
             int size = nameSize();
-            fault = size == 0 ? BAD_BYTE : nameFault();
+            fault = size == 0 || size > NAME_BYTES ? BAD_BYTE : countName();
             if (fault != 0) {
                 return;
             }
@@ -355,7 +355,7 @@ public final class SharedLambda {
                 fault = UNBOUND;
                 return;
             }
-            fault = nameFault();
+            fault = countName();
             if (fault != 0) {
                 return;
             }
@@ -421,11 +421,8 @@ public final class SharedLambda {
             return NONE;
         }
 
-        /** Counts the name that stands here. */
-        private int nameFault() {
-            if (nameSize() > NAME_BYTES) {
-                return BAD_BYTE;
-            }
+        /** Names behind a lambda and others are counted together. */
+        private int countName() {
             names++;
             return names > MAX_NAMES ? TOO_MANY : 0;
         }
@@ -1018,7 +1015,6 @@ public final class SharedLambda {
             return true;
         }
 
-        /** Into a fan by its port 1 or 2: that is what FIRST and SECOND are numbered by. */
         void enterFan(int n, int which) {
             note(CHANGED, n);
             set(n, trees.tree(which == 1 ? Trees.FIRST : Trees.SECOND, level(n), Trees.BOX));
@@ -1117,6 +1113,7 @@ public final class SharedLambda {
         private static final int IN_FUNCTION = 1;
         private static final int IN_ARGUMENT = 2;
         private static final int FEW_LEVELS = 2048;
+        private static final int MOST_LEVELS = MAX_LETTERS * MAX_INDEX;
 
         private final Graph graph;
         private final Context context = new Context();
@@ -1338,10 +1335,10 @@ public final class SharedLambda {
             }
         }
 
-        /** Grown, since no run that is known needs more than a few of all that the limits allow. */
+        /** Grown, since few runs need more than a little of what the limits allow. */
         private void growLevels(int needed) {
-            if (needed > binderLevels.length && needed <= MAX_LETTERS * (MAX_INDEX + 1)) {
-                int[] grown = new int[needed * 2];
+            if (needed > binderLevels.length && needed <= MOST_LEVELS) {
+                int[] grown = new int[Math.min(needed * 2, MOST_LEVELS)];
                 System.arraycopy(binderLevels, 0, grown, 0, binderLevels.length);
                 binderLevels = grown;
             }

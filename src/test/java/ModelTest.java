@@ -32,7 +32,11 @@ public final class ModelTest {
     String three = "(\\f.\\x.f (f (f x)))";
     String omega = "((\\x.x x) (\\x.x x))";
     String fix = "(\\f.(\\x.f (x x)) (\\x.f (x x)))";
+    String four = "(\\f.\\x.f (f (f (f x))))";
     return new String[] {
+      "\\w." + "w (".repeat(20) + four + four + "(\\u.\\v.u) w" + ")".repeat(20),
+      "\\w." + "w (".repeat(20) + "\\y." + three + four + "(\\u.\\v.u v) (w y)" + ")".repeat(20),
+      "\\w." + "w (".repeat(20) + three + three + "(\\u.\\v.\\t.u) (\\a.a (w a))" + ")".repeat(20),
       two + two + two, two + two + two + two, three + two, two + three, three + three, two + three + one,
       omega, fix + "(\\x.x)", fix, fix + "(\\x.\\y.y)", "(\\x.x x x) (\\x.x x x)",
       "(\\n.\\f.\\x.n (\\g.\\h.h (g f)) (\\u.x) (\\u.u))" + three,

@@ -2,6 +2,7 @@
 public final class RunTest {
   private static final String TWO = "(\\f.\\x.f (f x))";
   private static final String THREE = "(\\f.\\x.f (f (f x)))";
+  private static final String FOUR = "(\\f.\\x.f (f (f (f x))))";
   private static final String OMEGA = "((\\x.x x) (\\x.x x))";
 
   public static void main(String[] args) {
@@ -37,6 +38,9 @@ public final class RunTest {
     result("\\x.".repeat(12) + "x", "\\".repeat(12) + "0");
     result("\\y." + "\\x.".repeat(11) + "y", "\\".repeat(12) + "11");
     result("\\y." + "\\x.".repeat(10) + "y y", "\\".repeat(11) + "(10 10)");
+    // many abstractions of a high index, each with its levels
+    result("\\w." + "w (".repeat(20) + "\\y." + FOUR + FOUR + "(\\u.\\v.u) (\\z.z y)" + ")".repeat(20),
+        "\\" + "(0 ".repeat(20) + "\\".repeat(258) + "(0 257)" + ")".repeat(20));
   }
 
   private static void wrongFuel() {

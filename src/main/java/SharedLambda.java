@@ -568,11 +568,9 @@ public final class SharedLambda {
             link(newPort, across(oldPort));
         }
 
-        /** What was at one port is wired to what was at the other one. */
+        /** What was at one port is wired to what was at the other; if that was each other, both go with the wire. */
         void join(int one, int other) {
-            if (across(one) != other) {
-                link(across(one), across(other));
-            }
+            link(across(one), across(other));
         }
 
         void eraseAll() {

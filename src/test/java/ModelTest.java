@@ -32,11 +32,12 @@ public final class ModelTest {
     String three = "(\\f.\\x.f (f (f x)))";
     String omega = "((\\x.x x) (\\x.x x))";
     String fix = "(\\f.(\\x.f (x x)) (\\x.f (x x)))";
-    String four = "(\\f.\\x.f (f (f (f x))))";
     return new String[] {
-      "\\w." + "w (".repeat(20) + four + four + "(\\u.\\v.u) w" + ")".repeat(20),
-      "\\w." + "w (".repeat(20) + "\\y." + three + four + "(\\u.\\v.u v) (w y)" + ")".repeat(20),
-      "\\w." + "w (".repeat(20) + three + three + "(\\u.\\v.\\t.u) (\\a.a (w a))" + ")".repeat(20),
+      // the same lambda is read around itself, so that only the levels tell whose variable it is
+      "\\w.\\g.\\z." + two + "(\\x.\\z.w (\\y.x (z y))) g z",
+      "\\w.\\g.\\z." + three + "(\\x.\\z.w (\\y.x (z y))) g z",
+      "\\w.\\g.\\z." + two + three + "(\\x.\\z.w (\\y.x (z y))) g z",
+      "\\w.\\g." + three + "(\\x.\\z.w (\\y.x (z y)) (\\y.x y z)) g",
       two + two + two, two + two + two + two, three + two, two + three, three + three, two + three + one,
       omega, fix + "(\\x.x)", fix, fix + "(\\x.\\y.y)", "(\\x.x x x) (\\x.x x x)",
       "(\\n.\\f.\\x.n (\\g.\\h.h (g f)) (\\u.x) (\\u.u))" + three,
@@ -58,6 +59,11 @@ public final class ModelTest {
       int use = 2 + CHANCE.nextInt(2);
       return "((\\s." + "s ".repeat(use) + makeTerm(size / 2, bound + "s", nest + 2) + ") "
           + makeTerm(size / 2, bound, nest + 1) + ")";
+    }
+    if (choice < 6 && size > 6 && !bound.isEmpty()) {
+      String numeral = CHANCE.nextBoolean() ? "(\\f.\\x.f (f x))" : "(\\f.\\x.f (f (f x)))";
+      return "(" + numeral + "(\\x.\\z." + name(bound) + "(\\y." + makeTerm(size / 2, bound + "xzy", nest + 5) + "))"
+          + name(bound) + ")";
     }
     int left = 1 + CHANCE.nextInt(size - 1);
     return "(" + makeTerm(left, bound, nest + 1) + " " + makeTerm(size - left, bound, nest + 1) + ")";

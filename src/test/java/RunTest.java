@@ -38,9 +38,14 @@ public final class RunTest {
     result("\\x.".repeat(12) + "x", "\\".repeat(12) + "0");
     result("\\y." + "\\x.".repeat(11) + "y", "\\".repeat(12) + "11");
     result("\\y." + "\\x.".repeat(10) + "y y", "\\".repeat(11) + "(10 10)");
-    // many abstractions of a high index, each with its levels
-    result("\\w." + "w (".repeat(20) + "\\y." + FOUR + FOUR + "(\\u.\\v.u) (\\z.z y)" + ")".repeat(20),
-        "\\" + "(0 ".repeat(20) + "\\".repeat(258) + "(0 257)" + ")".repeat(20));
+    manyLevels();
+  }
+
+  /** Many abstractions of a high index, whose levels are all kept, and one that is read around itself. */
+  private static void manyLevels() {
+    String text = "\\w." + "w (".repeat(20) + "\\g." + TWO + "(\\x.\\z.w (\\y." + FOUR + FOUR
+        + "(\\u.\\v.u) (x (z y)))) g" + ")".repeat(20);
+    result(text, PlainReducer.normal(new PlainModel().parse(text), 100000));
   }
 
   private static void wrongFuel() {

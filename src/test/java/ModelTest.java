@@ -95,7 +95,7 @@ public final class ModelTest {
       ANSWERS[answer]++;
       String call = "run(" + fuel + ") of " + text;
       Checks.due(call, x.run(fuel), answer);
-      Checks.due("state behind " + call, Checks.state(x), stateOf(model));
+      Checks.due("state behind " + call, Checks.state(x), model.state());
       if (answer == 0) {
         compareWithReduction(term, text, model.result);
       }
@@ -111,16 +111,5 @@ public final class ModelTest {
       reduced++;
       Checks.due("normal form of " + text, result, normal);
     }
-  }
-
-  private static String stateOf(PlainModel model) {
-    StringBuilder all = new StringBuilder("0 ");
-    all.append(model.betas).append(' ').append(model.annihilations).append(' ');
-    all.append(model.passings).append(' ').append(model.erased).append(' ');
-    all.append(model.nodes.size()).append(' ').append(model.result.length()).append(" 0 ");
-    for (int kind = 0; kind <= 5; kind++) {
-      all.append(model.population(kind)).append(' ');
-    }
-    return all.append(model.result).toString();
   }
 }

@@ -192,6 +192,14 @@ final class PlainModel {
   int passings;
   int erased;
 
+  // The document's limits; a test lifts one to see what would have come behind it.
+  int mostNodes = 3000;
+  int mostIndex = 63;
+  int mostSteps = 4000;
+  int mostLetters = 4000;
+  /** How many nodes there were behind the latest meeting, before erasing. */
+  int beforeErasing;
+
   private static final class Part {
     Port root;
     final Map<String, Port> free = new LinkedHashMap<>();
@@ -256,6 +264,24 @@ final class PlainModel {
       function.free.put(entry.getKey(), port);
     }
     return function;
+  }
+
+  /** The model of a text that is a term. */
+  static PlainModel of(String text) {
+    PlainModel model = new PlainModel();
+    model.take(model.parse(text));
+    return model;
+  }
+
+  /** As Checks.state tells it of the class, with no fault and an empty tape. */
+  String state() {
+    StringBuilder all = new StringBuilder("0 ");
+    all.append(betas).append(' ').append(annihilations).append(' ').append(passings).append(' ');
+    all.append(erased).append(' ').append(nodes.size()).append(' ').append(result.length()).append(" 0 ");
+    for (int kind = 0; kind <= 5; kind++) {
+      all.append(population(kind)).append(' ');
+    }
+    return all.append(result).toString();
   }
 
   int population(int kind) {
@@ -356,6 +382,7 @@ final class PlainModel {
     } else {
       return 4;
     }
+    beforeErasing = nodes.size();
     erase();
     return 0;
   }
@@ -388,7 +415,7 @@ final class PlainModel {
   private boolean pass(Node c, Node u) {
     int copies = c.kind == FAN ? 2 : 1;
     int index = u.index + (c.kind == CROISSANT ? -1 : c.kind == BRACKET ? 1 : 0);
-    if (nodes.size() - 2 + copies + u.ports.length - 1 > 3000 || index > 63) {
+    if (nodes.size() - 2 + copies + u.ports.length - 1 > mostNodes || index > mostIndex) {
       return false;
     }
     Map<Port, Port> instead = new HashMap<>();
@@ -462,14 +489,11 @@ final class PlainModel {
 
   private static final int MEET = -1;
   private Port last;
-  private int steps;
-  private StringBuilder told;
+  /** Steps of the latest walk, and what it told. */
+  int steps;
+  StringBuilder told;
   private List<Read> readings;
   String result = "";
-  /** The longest walk so far that came to a meeting: for tests of the limit of steps. */
-  int longest;
-  /** Whether a walk that was too long would have come to a meeting with the very next step. */
-  boolean cutAtMeeting;
 
   int run(int fuel) {
     int left = fuel;
@@ -518,7 +542,7 @@ final class PlainModel {
   }
 
   private void tell(String letters) {
-    if (told.length() + letters.length() > 4000) {
+    if (told.length() + letters.length() > mostLetters) {
       throw new Stop(3);
     }
     told.append(letters);
@@ -533,13 +557,11 @@ final class PlainModel {
       Port in = out.other;
       Node v = in.node;
       boolean meets = out.q == 0 && out.node.kind != ROOT && in.q == 0;
-      if (steps > 4000) {
-        cutAtMeeting = meets;
+      if (steps > mostSteps) {
         throw new Stop(3);
       }
       if (meets) {
         last = out;
-        longest = Math.max(longest, steps);
         throw new Stop(MEET);
       }
       if (v.kind == LAMBDA && in.q == 0) {

@@ -1336,7 +1336,7 @@ public final class SharedLambda {
         /** Grown, since few runs need more than a little of what the limits allow. */
         private void growLevels(int needed) {
             if (needed > binderLevels.length && needed <= MOST_LEVELS) {
-                int[] grown = new int[Math.min(needed * 2, MOST_LEVELS)];
+                int[] grown = new int[needed * 2 < MOST_LEVELS ? needed * 2 : MOST_LEVELS];
                 System.arraycopy(binderLevels, 0, grown, 0, binderLevels.length);
                 binderLevels = grown;
             }

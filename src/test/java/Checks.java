@@ -164,6 +164,14 @@ final class Checks {
     return x.read();
   }
 
+  /** Reading the text answers the place of its fault, count(0) the kind, and the tape is empty then. */
+  static void fault(String text, int kind, int place) {
+    SharedLambda x = new SharedLambda();
+    due("read " + text, read(x, text), -1 - place);
+    due("fault of " + text, x.count(0), kind);
+    due("tape behind " + text, x.count(7), 0);
+  }
+
   static SharedLambda of(String text) {
     SharedLambda x = new SharedLambda();
     if (read(x, text) < 0) {

@@ -7,13 +7,6 @@ public final class Promise4FaultTest {
     Checks.cases(Promise4FaultTest.class);
   }
 
-  private static void fault(String text, int kind, int place) {
-    SharedLambda x = new SharedLambda();
-    Checks.due("read " + text, Checks.read(x, text), -1 - place);
-    Checks.due("fault of " + text, x.count(0), kind);
-    Checks.due("tape behind " + text, x.count(7), 0);
-  }
-
   private static void taken(String text, int nodes) {
     SharedLambda x = new SharedLambda();
     Checks.due("read " + text, Checks.read(x, text), nodes);
@@ -23,94 +16,94 @@ public final class Promise4FaultTest {
   // ---- 1: a byte that cannot stand where it does, a name of more than 4 bytes, the end
 
   static void promise4_fault_1_at_place_0() {
-    fault(")", 1, 0);
-    fault(".", 1, 0);
-    fault("1", 1, 0);
-    fault("X", 1, 0);
+    Checks.fault(")", 1, 0);
+    Checks.fault(".", 1, 0);
+    Checks.fault("1", 1, 0);
+    Checks.fault("X", 1, 0);
   }
 
   static void promise4_fault_1_at_the_last_byte_of_a_full_tape() {
-    fault(Texts.padded("\\x.x", 599) + ")", 1, 599);
-    fault(Texts.padded("\\x.x", 599) + "\\", 1, 599);
+    Checks.fault(Texts.padded("\\x.x", 599) + ")", 1, 599);
+    Checks.fault(Texts.padded("\\x.x", 599) + "\\", 1, 599);
   }
 
   static void promise4_fault_1_at_the_byte_that_cannot_stand() {
-    fault("\\.", 1, 1);
-    fault("\\\\x.x", 1, 1);
-    fault("\\(x).x", 1, 1);
-    fault("\\)", 1, 1);
-    fault("\\x x.x", 1, 3);
-    fault("\\x(x", 1, 2);
-    fault("\\x\\y.x", 1, 2);
-    fault("\\x)", 1, 2);
-    fault("\\x..x", 1, 3);
-    fault("\\x.)", 1, 3);
-    fault("\\x.x.", 1, 4);
-    fault("\\x.x,", 1, 4);
-    fault("(.", 1, 1);
-    fault("(\\x.x.)", 1, 5);
+    Checks.fault("\\.", 1, 1);
+    Checks.fault("\\\\x.x", 1, 1);
+    Checks.fault("\\(x).x", 1, 1);
+    Checks.fault("\\)", 1, 1);
+    Checks.fault("\\x x.x", 1, 3);
+    Checks.fault("\\x(x", 1, 2);
+    Checks.fault("\\x\\y.x", 1, 2);
+    Checks.fault("\\x)", 1, 2);
+    Checks.fault("\\x..x", 1, 3);
+    Checks.fault("\\x.)", 1, 3);
+    Checks.fault("\\x.x.", 1, 4);
+    Checks.fault("\\x.x,", 1, 4);
+    Checks.fault("(.", 1, 1);
+    Checks.fault("(\\x.x.)", 1, 5);
   }
 
   static void promise4_fault_1_at_a_parenthesis_that_closes_nothing() {
-    fault("\\x.x)", 1, 4);
-    fault("(\\x.x))", 1, 6);
-    fault("(\\x.x) )", 1, 7);
-    fault("(\\x.(\\y.y) x) )x", 1, 14);
+    Checks.fault("\\x.x)", 1, 4);
+    Checks.fault("(\\x.x))", 1, 6);
+    Checks.fault("(\\x.x) )", 1, 7);
+    Checks.fault("(\\x.(\\y.y) x) )x", 1, 14);
   }
 
   static void promise4_fault_1_at_the_length_of_an_empty_tape() {
-    fault("", 1, 0);
+    Checks.fault("", 1, 0);
   }
 
   static void promise4_fault_1_at_the_length_of_a_tape_that_ends_too_early() {
-    fault("\\", 1, 1);
-    fault("\\x", 1, 2);
-    fault("\\x.", 1, 3);
-    fault("(", 1, 1);
-    fault("\\x.(", 1, 4);
-    fault("\\x.(x", 1, 5);
-    fault("(\\x.x", 1, 5);
-    fault("((\\x.x)", 1, 7);
-    fault("\\x.x (\\y.x", 1, 10);
+    Checks.fault("\\", 1, 1);
+    Checks.fault("\\x", 1, 2);
+    Checks.fault("\\x.", 1, 3);
+    Checks.fault("(", 1, 1);
+    Checks.fault("\\x.(", 1, 4);
+    Checks.fault("\\x.(x", 1, 5);
+    Checks.fault("(\\x.x", 1, 5);
+    Checks.fault("((\\x.x)", 1, 7);
+    Checks.fault("\\x.x (\\y.x", 1, 10);
   }
 
   static void promise4_fault_1_at_the_length_with_blanks_behind_too() {
     for (String blanks : new String[] {" ", "\t\n\r ", " ".repeat(9)}) {
       for (String text : new String[] {"", "\\", "\\x", "\\x.", "(", "\\x.(", "\\x.(x", "(\\x.x", "((\\x.x)"}) {
-        fault(text + blanks, 1, text.length() + blanks.length());
+        Checks.fault(text + blanks, 1, text.length() + blanks.length());
       }
     }
   }
 
   static void promise4_fault_1_at_the_length_of_a_full_tape() {
-    fault(" ".repeat(600), 1, 600);
-    fault(Texts.padded("\\x", 600), 1, 600);
-    fault(" ".repeat(599) + "(", 1, 600);
-    fault(" ".repeat(599) + "\\", 1, 600);
-    fault(" ".repeat(595) + "(\\x.x", 1, 600);
+    Checks.fault(" ".repeat(600), 1, 600);
+    Checks.fault(Texts.padded("\\x", 600), 1, 600);
+    Checks.fault(" ".repeat(599) + "(", 1, 600);
+    Checks.fault(" ".repeat(599) + "\\", 1, 600);
+    Checks.fault(" ".repeat(595) + "(\\x.x", 1, 600);
   }
 
   static void promise4_fault_1_at_a_name_that_the_end_cuts_off_is_at_the_length() {
-    fault("\\x123", 1, 5);
-    fault("\\x1234", 1, 1);
+    Checks.fault("\\x123", 1, 5);
+    Checks.fault("\\x1234", 1, 1);
   }
 
   // ---- 2: a name that no \ around it has
 
   static void promise4_fault_2_at_a_name_that_no_lambda_has() {
-    fault("x", 2, 0);
-    fault(" x", 2, 1);
-    fault("\\x.y", 2, 3);
-    fault("\\x.(y)", 2, 4);
-    fault("\\x.x (\\y.y) y", 2, 12);
-    fault(" ".repeat(599) + "x", 2, 599);
+    Checks.fault("x", 2, 0);
+    Checks.fault(" x", 2, 1);
+    Checks.fault("\\x.y", 2, 3);
+    Checks.fault("\\x.(y)", 2, 4);
+    Checks.fault("\\x.x (\\y.y) y", 2, 12);
+    Checks.fault(" ".repeat(599) + "x", 2, 599);
   }
 
   static void promise4_fault_2_at_a_name_that_is_a_part_of_one_or_has_one_as_a_part() {
-    fault("\\x.x1", 2, 3);
-    fault("\\x1.x", 2, 4);
-    fault("\\x123.x124", 2, 6);
-    fault("\\x123.y123", 2, 6);
+    Checks.fault("\\x.x1", 2, 3);
+    Checks.fault("\\x1.x", 2, 4);
+    Checks.fault("\\x123.x124", 2, 6);
+    Checks.fault("\\x123.y123", 2, 6);
   }
 
   static void promise4_fault_2_not_at_a_name_behind_a_lambda() {
@@ -124,42 +117,42 @@ public final class Promise4FaultTest {
     taken("(".repeat(39) + "\\x.x" + ")".repeat(39), 3);
     taken("\\x.".repeat(40) + "x", 1 + 40 + 39 + 1);
     taken("(\\x.".repeat(20) + "x" + ")".repeat(20), 1 + 20 + 19 + 1);
-    fault("(".repeat(40), 1, 40);
+    Checks.fault("(".repeat(40), 1, 40);
   }
 
   static void promise4_fault_3_at_the_41st_parenthesis() {
-    fault("(".repeat(41), 3, 40);
-    fault("(".repeat(600), 3, 40);
-    fault("(".repeat(40) + " (", 3, 41);
+    Checks.fault("(".repeat(41), 3, 40);
+    Checks.fault("(".repeat(600), 3, 40);
+    Checks.fault("(".repeat(40) + " (", 3, 41);
   }
 
   static void promise4_fault_3_at_the_41st_lambda() {
-    fault("\\x.".repeat(41) + "x", 3, 120);
-    fault("\\x.".repeat(40) + "\n\\", 3, 121);
+    Checks.fault("\\x.".repeat(41) + "x", 3, 120);
+    Checks.fault("\\x.".repeat(40) + "\n\\", 3, 121);
   }
 
   static void promise4_fault_3_at_a_parenthesis_in_lambdas_and_a_lambda_in_parentheses() {
-    fault("\\x." + "(".repeat(40) + "x", 3, 42);
-    fault("\\x.".repeat(40) + "(x)", 3, 120);
-    fault("\\x.".repeat(40) + "x (x)", 3, 122);
-    fault("(".repeat(40) + "\\x.x", 3, 40);
-    fault("(\\x.".repeat(20) + "\\x.x", 3, 80);
-    fault("(\\x.".repeat(20) + " (", 3, 81);
+    Checks.fault("\\x." + "(".repeat(40) + "x", 3, 42);
+    Checks.fault("\\x.".repeat(40) + "(x)", 3, 120);
+    Checks.fault("\\x.".repeat(40) + "x (x)", 3, 122);
+    Checks.fault("(".repeat(40) + "\\x.x", 3, 40);
+    Checks.fault("(\\x.".repeat(20) + "\\x.x", 3, 80);
+    Checks.fault("(\\x.".repeat(20) + " (", 3, 81);
   }
 
   static void promise4_fault_3_a_parenthesis_is_open_up_to_its_end_alone() {
     taken("\\x." + "(x)".repeat(60), 1 + 1 + 59 + 59 + 60 + 59);
     String deep = "\\x." + "(".repeat(38) + "(x)(x)(x)" + ")".repeat(38);
     taken(deep, 1 + 1 + 2 + 2 + 3 + 2);
-    fault("\\x." + "(".repeat(38) + "(x)((x))", 3, 3 + 38 + 4);
+    Checks.fault("\\x." + "(".repeat(38) + "(x)((x))", 3, 3 + 38 + 4);
   }
 
   static void promise4_fault_3_a_lambda_is_open_up_to_the_end_of_its_term_alone() {
     taken("(\\x.x)".repeat(39), 1 + 39 + 39 + 38);
     String deep = "(".repeat(38) + "(\\x.x)(\\y.y)(\\z.z)" + ")".repeat(38);
     taken(deep, 1 + 3 + 3 + 2);
-    fault("(".repeat(38) + "(\\x.x)(\\y.(y))", 3, 38 + 6 + 4);
-    fault("(".repeat(38) + "(\\x.x)(\\y.\\z.y)", 3, 38 + 6 + 4);
+    Checks.fault("(".repeat(38) + "(\\x.x)(\\y.(y))", 3, 38 + 6 + 4);
+    Checks.fault("(".repeat(38) + "(\\x.x)(\\y.\\z.y)", 3, 38 + 6 + 4);
   }
 
   // ---- 4: more than 80 names
@@ -171,15 +164,15 @@ public final class Promise4FaultTest {
   }
 
   static void promise4_fault_4_at_the_81st_name() {
-    fault(MOST_NAMES + "x", 4, 3 + 79 * 2);
-    fault("\\x." + "x ".repeat(78) + "(\\y. y)", 4, 3 + 78 * 2 + 5);
-    fault(MOST_NAMES + "((x", 4, 3 + 79 * 2 + 2);
+    Checks.fault(MOST_NAMES + "x", 4, 3 + 79 * 2);
+    Checks.fault("\\x." + "x ".repeat(78) + "(\\y. y)", 4, 3 + 78 * 2 + 5);
+    Checks.fault(MOST_NAMES + "((x", 4, 3 + 79 * 2 + 2);
   }
 
   static void promise4_fault_4_at_the_81st_name_behind_a_lambda() {
-    fault(MOST_NAMES + "(\\y.y)", 4, 3 + 79 * 2 + 2);
-    fault(MOST_NAMES + "(\\ y.y)", 4, 3 + 79 * 2 + 3);
-    fault("(\\x.x)".repeat(41), 4, 40 * 6 + 2);
+    Checks.fault(MOST_NAMES + "(\\y.y)", 4, 3 + 79 * 2 + 2);
+    Checks.fault(MOST_NAMES + "(\\ y.y)", 4, 3 + 79 * 2 + 3);
+    Checks.fault("(\\x.x)".repeat(41), 4, 40 * 6 + 2);
   }
 
   static void promise4_fault_4_names_are_counted_anew_for_each_text() {
@@ -193,38 +186,38 @@ public final class Promise4FaultTest {
   // ---- several faults
 
   static void promise4_the_first_fault_from_the_left_is_told() {
-    fault("y )", 2, 0);
-    fault("\\x.y(".repeat(50), 2, 3);
-    fault(") y", 1, 0);
-    fault("(".repeat(41) + ")", 3, 40);
-    fault("x" + "(".repeat(41), 2, 0);
-    fault(MOST_NAMES + "x y )", 4, 3 + 79 * 2);
-    fault("\\x.".repeat(41) + "y", 3, 120);
-    fault("\\x.(y", 2, 4);
-    fault("\\x.".repeat(40) + "\\1", 3, 120);
+    Checks.fault("y )", 2, 0);
+    Checks.fault("\\x.y(".repeat(50), 2, 3);
+    Checks.fault(") y", 1, 0);
+    Checks.fault("(".repeat(41) + ")", 3, 40);
+    Checks.fault("x" + "(".repeat(41), 2, 0);
+    Checks.fault(MOST_NAMES + "x y )", 4, 3 + 79 * 2);
+    Checks.fault("\\x.".repeat(41) + "y", 3, 120);
+    Checks.fault("\\x.(y", 2, 4);
+    Checks.fault("\\x.".repeat(40) + "\\1", 3, 120);
   }
 
   static void promise4_of_1_and_2_at_one_place_1_is_told() {
-    fault("y1234", 1, 0);
-    fault("\\x.x1234", 1, 3);
+    Checks.fault("y1234", 1, 0);
+    Checks.fault("\\x.x1234", 1, 3);
   }
 
   static void promise4_of_1_and_3_at_one_place_1_is_told() {
-    fault("\\x.".repeat(40) + "x \\y.y", 1, 122);
-    fault("\\x." + "(".repeat(39) + "x \\", 1, 3 + 39 + 2);
+    Checks.fault("\\x.".repeat(40) + "x \\y.y", 1, 122);
+    Checks.fault("\\x." + "(".repeat(39) + "x \\", 1, 3 + 39 + 2);
   }
 
   static void promise4_of_1_and_4_at_one_place_1_is_told() {
-    fault(MOST_NAMES + "x1234", 1, 3 + 79 * 2);
-    fault(MOST_NAMES + "(\\y1234.y)", 1, 3 + 79 * 2 + 2);
+    Checks.fault(MOST_NAMES + "x1234", 1, 3 + 79 * 2);
+    Checks.fault(MOST_NAMES + "(\\y1234.y)", 1, 3 + 79 * 2 + 2);
   }
 
   static void promise4_of_2_and_4_at_one_place_2_is_told() {
-    fault(MOST_NAMES + "y", 2, 3 + 79 * 2);
+    Checks.fault(MOST_NAMES + "y", 2, 3 + 79 * 2);
   }
 
   static void promise4_of_1_2_and_4_at_one_place_1_is_told() {
-    fault(MOST_NAMES + "y1234", 1, 3 + 79 * 2);
+    Checks.fault(MOST_NAMES + "y1234", 1, 3 + 79 * 2);
   }
 
   // ---- with a fault all else stays
@@ -264,6 +257,18 @@ public final class Promise4FaultTest {
     Checks.due("state", Checks.state(x), "1 0 0 0 0 3 0 0 1 0 0 1 0 0 ");
     Checks.due("run", x.run(0), 0);
     Checks.due("result", Checks.result(x), "\\0");
+  }
+
+  static void promise4_a_fault_leaves_nothing_of_its_text_to_the_next_one() {
+    SharedLambda x = new SharedLambda();
+    Checks.read(x, "\\x." + "x (".repeat(39) + "?");
+    Checks.due("indexes begin at 0 again", Checks.read(x, Texts.indexes(30, 32)) > 0 ? 1 : 0, 1);
+    Checks.due("up to 63 then", x.run(100000), 0);
+    Checks.read(x, "\\x.x (\\y.y (");
+    Checks.due("no \\ is open any more", Checks.read(x, "y"), -1);
+    Checks.due("its kind", x.count(0), 2);
+    Checks.due("no ( is open any more", Checks.read(x, "\\x.x)"), -5);
+    Checks.due("no part is there any more", Checks.read(x, "\\x.x"), 3);
   }
 
   static void promise4_the_tape_is_empty_behind_a_fault() {

@@ -13,12 +13,6 @@ public final class Promise4TextTest {
     Checks.due("meaning of " + text, Checks.result(x), told);
   }
 
-  private static void fault(String text, int kind, int place) {
-    SharedLambda x = new SharedLambda();
-    Checks.due("read " + text, Checks.read(x, text), -1 - place);
-    Checks.due("fault of " + text, x.count(0), kind);
-  }
-
   static void promise4_each_blank_may_stand_between_all_parts() {
     for (String blank : new String[] {"\t", "\n", "\r", " ", " \t\r\n"}) {
       String text = String.join(blank, "", "\\", "x", ".", "\\", "y", ".", "(", "x", ")", "(", "(", "y", ")", "x", ")", "");
@@ -32,11 +26,11 @@ public final class Promise4TextTest {
 
   static void promise4_the_bytes_beside_the_blanks_are_none() {
     for (int value : new int[] {0, 8, 11, 12, 14, 31, 33, 160}) {
-      fault("\\x.x" + (char) value, 1, 4);
-      fault((char) value + "\\x.x", 1, 0);
-      fault("\\" + (char) value + "x.x", 1, 1);
-      fault("\\x" + (char) value + ".x", 1, 2);
-      fault("\\x." + (char) value + "x", 1, 3);
+      Checks.fault("\\x.x" + (char) value, 1, 4);
+      Checks.fault((char) value + "\\x.x", 1, 0);
+      Checks.fault("\\" + (char) value + "x.x", 1, 1);
+      Checks.fault("\\x" + (char) value + ".x", 1, 2);
+      Checks.fault("\\x." + (char) value + "x", 1, 3);
     }
   }
 
@@ -48,9 +42,9 @@ public final class Promise4TextTest {
 
   static void promise4_the_bytes_beside_a_and_z_begin_no_name() {
     for (char letter : new char[] {'`', '{', 'A', 'Z', '@', '[', '_', 'a' + 128}) {
-      fault("\\" + letter + ".x", 1, 1);
-      fault("\\x." + letter, 1, 3);
-      fault("\\x.x " + letter, 1, 5);
+      Checks.fault("\\" + letter + ".x", 1, 1);
+      Checks.fault("\\x." + letter, 1, 3);
+      Checks.fault("\\x.x " + letter, 1, 5);
     }
   }
 
@@ -62,20 +56,20 @@ public final class Promise4TextTest {
 
   static void promise4_the_bytes_beside_0_and_9_are_no_digits() {
     for (char other : new char[] {'/', ':', '0' + 128}) {
-      fault("\\x" + other + ".x", 1, 2);
-      fault("\\x.x" + other, 1, 4);
+      Checks.fault("\\x" + other + ".x", 1, 2);
+      Checks.fault("\\x.x" + other, 1, 4);
     }
   }
 
   static void promise4_a_name_does_not_begin_with_a_digit() {
-    fault("\\1.x", 1, 1);
-    fault("\\x.1", 1, 3);
-    fault("\\x.x 1", 1, 5);
+    Checks.fault("\\1.x", 1, 1);
+    Checks.fault("\\x.1", 1, 3);
+    Checks.fault("\\x.x 1", 1, 5);
   }
 
   static void promise4_a_second_letter_is_a_second_name() {
     term("\\x.\\y.xy", 1 + 2 + 1 + 2 + 1, "\\\\(1 0)");
-    fault("\\xy.x", 1, 2);
+    Checks.fault("\\xy.x", 1, 2);
   }
 
   static void promise4_a_name_of_1_byte_is_taken() {
@@ -88,11 +82,11 @@ public final class Promise4TextTest {
   }
 
   static void promise4_a_name_of_5_bytes_is_refused() {
-    fault("\\x1234.x", 1, 1);
-    fault("\\ x1234.x", 1, 2);
-    fault("\\x.x1234", 1, 3);
-    fault("\\x.x x1234 x", 1, 5);
-    fault("\\x.x123456789012345678901234567890", 1, 3);
+    Checks.fault("\\x1234.x", 1, 1);
+    Checks.fault("\\ x1234.x", 1, 2);
+    Checks.fault("\\x.x1234", 1, 3);
+    Checks.fault("\\x.x x1234 x", 1, 5);
+    Checks.fault("\\x.x123456789012345678901234567890", 1, 3);
   }
 
   static void promise4_a_name_of_4_bytes_is_all_of_it_looked_at() {
@@ -101,9 +95,9 @@ public final class Promise4TextTest {
 
   static void promise4_a_name_is_as_long_as_may_be() {
     term("\\a.\\a1.\\a12.a1", 3 + 3 + 1, "\\\\\\1");
-    fault("\\a.a1", 2, 3);
-    fault("\\a1.a", 2, 4);
-    fault("\\a.a 1", 1, 5);
+    Checks.fault("\\a.a1", 2, 3);
+    Checks.fault("\\a1.a", 2, 4);
+    Checks.fault("\\a.a 1", 1, 5);
   }
 
   static void promise4_names_with_a_0_before_are_others() {
@@ -112,13 +106,13 @@ public final class Promise4TextTest {
   }
 
   static void promise4_a_term_without_a_part_is_refused() {
-    fault("", 1, 0);
-    fault("()", 1, 1);
-    fault("( )", 1, 2);
-    fault("\\x.()", 1, 4);
-    fault("(\\x.)", 1, 4);
-    fault("\\x.", 1, 3);
-    fault("\\x.x ()", 1, 6);
+    Checks.fault("", 1, 0);
+    Checks.fault("()", 1, 1);
+    Checks.fault("( )", 1, 2);
+    Checks.fault("\\x.()", 1, 4);
+    Checks.fault("(\\x.)", 1, 4);
+    Checks.fault("\\x.", 1, 3);
+    Checks.fault("\\x.x ()", 1, 6);
   }
 
   static void promise4_a_term_of_one_part_is_taken() {
@@ -134,11 +128,11 @@ public final class Promise4TextTest {
   }
 
   static void promise4_a_lambda_stands_at_the_beginning_of_a_term_alone() {
-    fault("\\x.x \\y.y", 1, 5);
-    fault("\\x.x\\y.y", 1, 4);
-    fault("\\x.(\\y.y) \\z.z", 1, 10);
-    fault("(\\x.x)\\y.y", 1, 6);
-    fault("\\x.(x \\y.y)", 1, 6);
+    Checks.fault("\\x.x \\y.y", 1, 5);
+    Checks.fault("\\x.x\\y.y", 1, 4);
+    Checks.fault("\\x.(\\y.y) \\z.z", 1, 10);
+    Checks.fault("(\\x.x)\\y.y", 1, 6);
+    Checks.fault("\\x.(x \\y.y)", 1, 6);
     term("\\x.\\y.y", 5, "\\\\0");
     term("\\x.x (\\y.y)", 1 + 2 + 1 + 2, "\\(0 \\0)");
   }
@@ -155,9 +149,9 @@ public final class Promise4TextTest {
   }
 
   static void promise4_a_lambda_whose_term_has_ended_has_no_name_any_more() {
-    fault("(\\x.x) x", 2, 7);
-    fault("\\y.(\\x.x) x", 2, 10);
-    fault("\\y.y (\\x.x (\\z.z) z)", 2, 18);
+    Checks.fault("(\\x.x) x", 2, 7);
+    Checks.fault("\\y.(\\x.x) x", 2, 10);
+    Checks.fault("\\y.y (\\x.x (\\z.z) z)", 2, 18);
   }
 
   static void promise4_the_tape_is_empty_behind_a_term() {

@@ -97,6 +97,21 @@ public final class Promise5FuelTest {
     }
   }
 
+  /** Nothing of a walk that came to no end is left: 400 walks through 18 abstractions and more. */
+  static void promise5_each_run_begins_its_walk_anew() {
+    String text = "\\w." + "w (\\q.".repeat(17) + "w ((\\x.\\y.x x) (\\x.\\y.x x))" + ")".repeat(17);
+    SharedLambda x = Checks.of(text);
+    for (int k = 0; k < 400; k++) {
+      Checks.due("run(1), time " + k, x.run(1), 1);
+    }
+    SharedLambda whole = Checks.of(text);
+    whole.run(400);
+    Checks.due("state", Checks.state(x), Checks.state(whole));
+    PlainModel model = PlainModel.of(text);
+    model.run(400);
+    Checks.due("state by the model", Checks.state(x), model.state());
+  }
+
   static void promise5_no_fuel_is_answered_before_no_room() {
     String text = "(\\x.x (x x)) (\\x.x (x x))";
     SharedLambda x = Checks.of(text);

@@ -20,6 +20,16 @@ public final class Promise5LengthTest {
     return Texts.around(around, "(\\h.\\v.v (" + many + ") " + last + ") (\\y.y)");
   }
 
+  /** Steps and letters of the whole walk behind so many meetings, told by a model without these limits. */
+  private static void whole(String text, int fuel, int steps, int letters) {
+    PlainModel model = PlainModel.of(text);
+    model.mostSteps = 9999;
+    model.mostLetters = 9999;
+    model.run(fuel);
+    Checks.due("steps of " + text, model.steps, steps);
+    Checks.due("letters of " + text, model.told.length(), letters);
+  }
+
   /** With just this fuel it answers so, as the model does; with no more fuel it answers so again, and changes nothing. */
   private static SharedLambda answers(String text, int fuel, int answer) {
     SharedLambda x = Checks.of(text);
@@ -34,154 +44,126 @@ public final class Promise5LengthTest {
     return x;
   }
 
-  private static void stays(SharedLambda x, int answer) {
-    String before = Checks.state(x);
-    Checks.due("run(100000)", x.run(100000), answer);
-    Checks.due("state", Checks.state(x), before);
+  private static void isTold(String text, int fuel, int steps, int letters) {
+    whole(text, fuel, steps, letters);
+    SharedLambda x = answers(text, fuel, 0);
+    Checks.due("letters", x.count(6), letters);
+    Checks.due("result", Checks.result(x), PlainReducer.normal(new PlainModel().parse(text), 20000));
   }
 
-  /** Steps and letters of the whole walk, told by a model without these limits. */
-  private static void whole(String text, int fuel, int steps, int letters) {
-    PlainModel model = PlainModel.of(text);
-    model.mostSteps = 9999;
-    model.mostLetters = 9999;
-    model.run(fuel);
-    Checks.due("steps of " + text, model.steps, steps);
-    Checks.due("letters of " + text, model.told.length(), letters);
+  private static void isTooLong(String text, int fuel, int steps, int letters) {
+    whole(text, fuel, steps, letters);
+    staysTooLong(answers(text, fuel, 3));
+  }
+
+  private static void staysTooLong(SharedLambda x) {
+    String before = Checks.state(x);
+    Checks.due("run(100000)", x.run(100000), 3);
+    Checks.due("state", Checks.state(x), before);
+    Checks.due("no letters", x.count(6), 0);
+  }
+
+  /** The walk comes to a meeting, which is done if there is fuel. */
+  private static SharedLambda meets(String text, int fuel, int steps, int letters) {
+    whole(text, fuel, steps, letters);
+    SharedLambda x = answers(text, fuel, 1);
+    x.run(1);
+    Checks.due("done", Checks.meetings(x), fuel + 1);
+    return x;
   }
 
   // ---- steps
 
   static void promise5_4000_steps_are_done() {
-    String text = then(4, MANY_STEPS, "v");
-    whole(text, FOR_STEPS, 4000, 3695);
-    SharedLambda x = answers(text, FOR_STEPS, 0);
-    Checks.due("letters", x.count(6), 3695);
-    Checks.due("result", Checks.result(x), PlainReducer.normal(new PlainModel().parse(text), 20000));
+    isTold(then(4, MANY_STEPS, "v"), FOR_STEPS, 4000, 3695);
   }
 
   static void promise5_4001_steps_are_too_long() {
-    String text = then(5, MANY_STEPS, "v");
-    whole(text, FOR_STEPS, 4001, 3696);
-    SharedLambda x = answers(text, FOR_STEPS, 3);
-    Checks.due("no letters", x.count(6), 0);
-    stays(x, 3);
+    isTooLong(then(5, MANY_STEPS, "v"), FOR_STEPS, 4001, 3696);
   }
 
   static void promise5_a_meeting_at_step_4000_is_done() {
-    String text = then(17, MANY_STEPS, MEETING);
-    whole(text, FOR_STEPS, 4000, 3707);
-    SharedLambda x = answers(text, FOR_STEPS, 1);
-    x.run(1);
-    Checks.due("done", Checks.meetings(x), FOR_STEPS + 1);
+    meets(then(17, MANY_STEPS, MEETING), FOR_STEPS, 4000, 3707);
   }
 
   /** To find that two are to meet is a step, too. */
   static void promise5_a_meeting_at_step_4001_is_too_long() {
-    String text = then(18, MANY_STEPS, MEETING);
-    whole(text, FOR_STEPS, 4001, 3708);
-    stays(answers(text, FOR_STEPS, 3), 3);
+    isTooLong(then(18, MANY_STEPS, MEETING), FOR_STEPS, 4001, 3708);
   }
 
   static void promise5_each_walk_behind_a_meeting_is_looked_at() {
-    String shorter = then(15, MANY_STEPS, MEETING);
-    whole(shorter, FOR_STEPS + 4, 3999, 3707);
-    Checks.due("no walk is too long", answers(shorter, FOR_STEPS, 1).run(4), 0);
+    isTold(then(15, MANY_STEPS, MEETING), FOR_STEPS + 4, 3999, 3707);
     String text = then(16, MANY_STEPS, MEETING);
-    whole(text, FOR_STEPS + 2, 4001, 3706);
     whole(text, FOR_STEPS + 4, 4000, 3708);
-    SharedLambda x = answers(text, FOR_STEPS, 1);
-    Checks.due("one before the last is too long", x.run(100000), 3);
-    Checks.due("its meeting is not done", Checks.meetings(x), FOR_STEPS + 2);
-    stays(x, 3);
+    isTooLong(text, FOR_STEPS + 2, 4001, 3706);
   }
 
   // ---- letters
 
   static void promise5_4000_letters_are_told() {
-    String text = then(10, MANY_LETTERS, "v");
-    whole(text, FOR_LETTERS, 3909, 4000);
-    SharedLambda x = answers(text, FOR_LETTERS, 0);
-    Checks.due("letters", x.count(6), 4000);
-    Checks.due("result", Checks.result(x), PlainReducer.normal(new PlainModel().parse(text), 20000));
+    isTold(then(10, MANY_LETTERS, "v"), FOR_LETTERS, 3909, 4000);
   }
 
   static void promise5_4001_letters_are_too_long_if_the_last_one_only_closes() {
-    String text = then(11, MANY_LETTERS, "v");
-    whole(text, FOR_LETTERS, 3910, 4001);
-    SharedLambda x = answers(text, FOR_LETTERS, 3);
-    Checks.due("no letters", x.count(6), 0);
-    stays(x, 3);
+    isTooLong(then(11, MANY_LETTERS, "v"), FOR_LETTERS, 3910, 4001);
   }
 
   static void promise5_4001_letters_are_too_long_if_the_last_one_is_a_number() {
-    String text = then(12, MANY_LETTERS, "v");
-    whole(text, FOR_LETTERS, 3911, 4002);
-    stays(answers(text, FOR_LETTERS, 3), 3);
+    isTooLong(then(12, MANY_LETTERS, "v"), FOR_LETTERS, 3911, 4002);
   }
 
   static void promise5_each_digit_of_a_number_is_a_letter() {
-    String one = "\\w." + then(8, MANY_LETTERS, "w");
-    whole(one, FOR_LETTERS, 3890, 3999);
-    SharedLambda x = answers(one, FOR_LETTERS, 0);
-    Checks.due("letters with 9", x.count(6), 3999);
-    Checks.due("9", x.letter(3997), '9');
-    String two = "\\w." + then(9, MANY_LETTERS, "w");
-    whole(two, FOR_LETTERS, 3891, 4001);
-    stays(answers(two, FOR_LETTERS, 3), 3);
-    String three = "\\w." + then(10, MANY_LETTERS, "w");
-    whole(three, FOR_LETTERS, 3892, 4002);
-    stays(answers(three, FOR_LETTERS, 3), 3);
+    isTold("\\w." + then(8, MANY_LETTERS, "w"), FOR_LETTERS, 3890, 3999);
+    isTooLong("\\w." + then(9, MANY_LETTERS, "w"), FOR_LETTERS, 3891, 4001);
+    isTooLong("\\w." + then(10, MANY_LETTERS, "w"), FOR_LETTERS, 3892, 4002);
   }
 
   static void promise5_a_meeting_behind_the_4000th_letter_an_opening_one_is_done() {
-    String text = then(11, MANY_LETTERS, MEETING);
-    whole(text, FOR_LETTERS, 3891, 4000);
-    SharedLambda x = answers(text, FOR_LETTERS, 1);
-    x.run(1);
-    Checks.due("done", Checks.meetings(x), FOR_LETTERS + 1);
+    SharedLambda x = meets(then(11, MANY_LETTERS, MEETING), FOR_LETTERS, 3891, 4000);
     Checks.due("too long in the end", x.run(100000), 3);
   }
 
   static void promise5_a_meeting_behind_the_4001st_letter_an_opening_one_is_too_long() {
-    String text = then(12, MANY_LETTERS, MEETING);
-    whole(text, FOR_LETTERS, 3892, 4001);
-    stays(answers(text, FOR_LETTERS, 3), 3);
+    isTooLong(then(12, MANY_LETTERS, MEETING), FOR_LETTERS, 3892, 4001);
   }
 
   static void promise5_a_meeting_behind_the_4000th_letter_a_blank_is_done() {
-    String text = thenMet(12, MANY_LETTERS, "h");
-    whole(text, FOR_LETTERS + 1, 3893, 4000);
-    SharedLambda x = answers(text, FOR_LETTERS + 1, 1);
-    x.run(1);
-    Checks.due("done", Checks.meetings(x), FOR_LETTERS + 2);
+    meets(thenMet(12, MANY_LETTERS, "h"), FOR_LETTERS + 1, 3893, 4000);
   }
 
   /** The blank counts with the step before it, behind which there is no other one yet. */
   static void promise5_a_meeting_behind_the_4001st_letter_a_blank_is_too_long() {
-    String text = thenMet(13, MANY_LETTERS, "h");
-    whole(text, FOR_LETTERS + 1, 3894, 4001);
-    stays(answers(text, FOR_LETTERS + 1, 3), 3);
+    isTooLong(thenMet(13, MANY_LETTERS, "h"), FOR_LETTERS + 1, 3894, 4001);
   }
 
   static void promise5_a_meeting_behind_the_4001st_letter_a_closing_one_is_too_long() {
-    String text = thenMet(14, MANY_LETTERS, "h");
-    whole(text, FOR_LETTERS + 1, 3895, 4002);
-    stays(answers(text, FOR_LETTERS + 1, 3), 3);
+    isTooLong(thenMet(14, MANY_LETTERS, "h"), FOR_LETTERS + 1, 3895, 4002);
   }
 
   static void promise5_a_meeting_behind_the_4000th_letter_an_abstraction_is_done() {
-    String text = thenMet(11, MANY_LETTERS, "(\\u.h)");
-    whole(text, FOR_LETTERS + 1, 3893, 4000);
-    SharedLambda x = answers(text, FOR_LETTERS + 1, 1);
-    x.run(1);
-    Checks.due("done", Checks.meetings(x), FOR_LETTERS + 2);
+    meets(thenMet(11, MANY_LETTERS, "(\\u.h)"), FOR_LETTERS + 1, 3893, 4000);
   }
 
   static void promise5_a_meeting_behind_the_4001st_letter_an_abstraction_is_too_long() {
-    String text = thenMet(12, MANY_LETTERS, "(\\u.h)");
-    whole(text, FOR_LETTERS + 1, 3894, 4001);
-    stays(answers(text, FOR_LETTERS + 1, 3), 3);
+    isTooLong(thenMet(12, MANY_LETTERS, "(\\u.h)"), FOR_LETTERS + 1, 3894, 4001);
+  }
+
+  /** No walk leaves anything to the next one, however long it was. */
+  static void promise5_terms_one_after_another_are_walked_as_on_new_objects() {
+    String[] texts = {
+      then(4, MANY_STEPS, "v"), then(11, MANY_LETTERS, "v"), Texts.THREE + Texts.TWO + Texts.TWO, Texts.TWO + Texts.TWO,
+      then(10, MANY_LETTERS, "v"), Texts.indexes(30, 32), Texts.FOUR + Texts.TWO + Texts.TWO, then(5, MANY_STEPS, "v"),
+      "\\w." + Texts.TWO + Texts.THREE + Texts.TWO + "(\\x.\\y.w y x y) (\\a.a)", "\\x.\\y.x y", Texts.THREE + Texts.THREE,
+    };
+    SharedLambda x = new SharedLambda();
+    for (int round = 0; round < 2; round++) {
+      for (String text : texts) {
+        SharedLambda fresh = Checks.of(text);
+        Checks.read(x, text);
+        Checks.due("run of " + text, x.run(100000), fresh.run(100000));
+        Checks.due("state of " + text, Checks.state(x), Checks.state(fresh));
+      }
+    }
   }
 
   static void promise5_behind_too_long_another_term_is_told() {

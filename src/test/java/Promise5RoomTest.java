@@ -86,15 +86,10 @@ public final class Promise5RoomTest {
     Checks.due("as on a new object", Checks.state(x), Checks.state(fresh));
   }
 
-  /** A function whose innermost name has the index 1 + inner goes into outer arguments: by 1 + inner + outer, then back. */
-  private static String indexes(int outer, int inner) {
-    return "\\f.(\\y." + Texts.nest("f", outer, "y") + ") (\\z." + Texts.nest("z", inner, "z") + ")";
-  }
-
   static void promise5_the_index_63_is_taken() {
     for (int outer = 27; outer <= 36; outer++) {
       int inner = 62 - outer;
-      SharedLambda x = Checks.of(indexes(outer, inner));
+      SharedLambda x = Checks.of(Texts.indexes(outer, inner));
       Checks.due("run with " + outer, x.run(100000), 0);
       Checks.due("told with " + outer, Checks.result(x),
           "\\" + "(0 ".repeat(outer) + "\\" + "(0 ".repeat(inner) + "0" + ")".repeat(62));
@@ -103,7 +98,7 @@ public final class Promise5RoomTest {
 
   static void promise5_the_index_64_is_no_room() {
     for (int outer = 28; outer <= 36; outer++) {
-      SharedLambda x = Checks.of(indexes(outer, 63 - outer));
+      SharedLambda x = Checks.of(Texts.indexes(outer, 63 - outer));
       Checks.due("run with " + outer, x.run(100000), 2);
       Checks.due("few nodes with " + outer, x.count(5) < 400 ? 1 : 0, 1);
       String before = Checks.state(x);
@@ -114,14 +109,14 @@ public final class Promise5RoomTest {
   }
 
   static void promise5_the_index_64_alone_is_why() {
-    PlainModel model = PlainModel.of(indexes(30, 33));
+    PlainModel model = PlainModel.of(Texts.indexes(30, 33));
     Checks.due("run by the model", model.run(100000), 2);
-    SharedLambda x = Checks.of(indexes(30, 33));
+    SharedLambda x = Checks.of(Texts.indexes(30, 33));
     x.run(100000);
     Checks.due("state", Checks.state(x), model.state());
     model.mostIndex = 64;
     Checks.due("with 64", model.run(100000), 0);
-    PlainModel below = PlainModel.of(indexes(30, 32));
+    PlainModel below = PlainModel.of(Texts.indexes(30, 32));
     below.mostIndex = 62;
     Checks.due("63 is needed where it is taken", below.run(100000), 2);
   }

@@ -17,6 +17,11 @@ final class Texts {
     return (f + " (").repeat(times - 1) + f + " " + last + ")".repeat(times - 1);
   }
 
+  /** A function whose innermost name has the index 1 + inner goes into outer arguments: by 1 + inner + outer, then back. */
+  static String indexes(int outer, int inner) {
+    return "\\f.(\\y." + nest("f", outer, "y") + ") (\\z." + nest("z", inner, "z") + ")";
+  }
+
   static String padded(String text, int length) {
     return text + " ".repeat(length - text.length());
   }

@@ -1337,7 +1337,9 @@ public final class SharedLambda {
         private void growLevels(int needed) {
             if (needed > binderLevels.length && needed <= MOST_LEVELS) {
                 int[] grown = new int[needed * 2 < MOST_LEVELS ? needed * 2 : MOST_LEVELS];
-                System.arraycopy(binderLevels, 0, grown, 0, binderLevels.length);
+                for (int k = 0; k < binderLevels.length && k < grown.length; k++) {
+                    grown[k] = binderLevels[k];
+                }
                 binderLevels = grown;
             }
         }

@@ -112,6 +112,39 @@ public final class Promise5FuelTest {
     Checks.due("state by the model", Checks.state(x), model.state());
   }
 
+  /** Each of these walks comes through some 1400 abstractions, which have 30 levels each. */
+  static void promise5_abstractions_of_earlier_walks_are_forgotten() {
+    String endless = "((\\x.\\y.x x) (\\x.\\y.x x))";
+    SharedLambda x = Checks.of("\\z." + "z (".repeat(30) + endless + ")".repeat(30));
+    Checks.due("no room", x.run(100000), 2);
+    for (int k = 0; k < 300; k++) {
+      Checks.due("run(0), time " + k, x.run(0), 1);
+    }
+    Checks.due("no room still", x.run(1), 2);
+    Checks.due("read", Checks.read(x, "\\x.x (\\y.\\z.y)"), 8);
+    Checks.due("run", x.run(0), 0);
+    Checks.due("result", Checks.result(x), "\\(0 \\\\1)");
+  }
+
+  /** Terms without end, whose walks have levels of some 1000 kinds each, few of which are the same in another term. */
+  static void promise5_levels_of_earlier_walks_are_forgotten() {
+    String[] functions = {
+      "(\\a.v (a (\\e.a e)))", "(\\a.v (v (a (\\e.a e))))", "(\\a.v (a (\\e.v (a e))))", "(\\a.v a (a (\\e.a e)))",
+      "(\\a.v (a (\\e.a (a e))))", "(\\a.v (v v (a (\\e.a e))))", "(\\a.v (a (\\e.a (\\b.e b))))",
+    };
+    SharedLambda x = new SharedLambda();
+    for (int round = 0; round < 2; round++) {
+      for (String function : functions) {
+        String text = "\\v." + function + function;
+        SharedLambda fresh = Checks.of(text);
+        Checks.due("read " + text, Checks.read(x, text), fresh.count(5));
+        Checks.due("run of a new object, " + text, fresh.run(100000), 3);
+        Checks.due("run of " + text, x.run(100000), 3);
+        Checks.due("state of " + text, Checks.state(x), Checks.state(fresh));
+      }
+    }
+  }
+
   static void promise5_no_fuel_is_answered_before_no_room() {
     String text = "(\\x.x (x x)) (\\x.x (x x))";
     SharedLambda x = Checks.of(text);
